@@ -1,0 +1,118 @@
+/** Counts the answers that are not as due, and what the tests share to look at an object. */
+final class Check {
+    private static int looked = 0;
+    private static int wrong = 0;
+
+    private Check() {
+    }
+
+    static void due(String what, long got, long want) {
+        looked++;
+        if (got != want) {
+            wrong++;
+            System.out.println(what + " answered " + got + ", due is " + want);
+        }
+    }
+
+    static void due(String what, boolean got) {
+        looked++;
+        if (!got) {
+            wrong++;
+            System.out.println(what + " does not hold");
+        }
+    }
+
+    static void same(String what, String got, String want) {
+        looked++;
+        if (!got.equals(want)) {
+            wrong++;
+            System.out.println(what + ":\n  is  " + got + "\n  due " + want);
+        }
+    }
+
+    static int wrongAnswers() {
+        return wrong;
+    }
+
+    /** To be called last in every main method. */
+    static void end(String test) {
+        System.out.println(test + ": " + looked + " answers looked at, " + wrong + " not as due");
+        if (wrong != 0 || looked == 0) {
+            System.exit(1);
+        }
+    }
+
+    /** What every getter answers, for every id that can exist and for those just outside. */
+    static String view(HolisticRta x) {
+        return analysisView(x) + " " + simulationView(x);
+    }
+
+    static String analysisView(HolisticRta x) {
+        StringBuilder text = new StringBuilder("state " + x.analysisState() + ", step bounds");
+        for (int s = -1; s <= 16; s++) {
+            text.append(' ').append(x.stepBound(s));
+        }
+        text.append(", transaction bounds");
+        for (int t = -1; t <= 8; t++) {
+            text.append(' ').append(x.transactionBound(t));
+        }
+        return text.toString();
+    }
+
+    static String simulationView(HolisticRta x) {
+        StringBuilder text = new StringBuilder("now " + x.now() + ", transactions (max/completed/overruns)");
+        for (int t = -1; t <= 8; t++) {
+            text.append(' ').append(x.observedMax(t)).append('/').append(x.completedCount(t))
+                .append('/').append(x.overrunCount(t));
+        }
+        text.append(", steps (max/remaining)");
+        for (int s = -1; s <= 16; s++) {
+            text.append(' ').append(x.stepObservedMax(s)).append('/').append(x.stepRemaining(s));
+        }
+        text.append(", running");
+        for (int r = -1; r <= 9; r++) {
+            text.append(' ').append(x.runningOn(r));
+        }
+        return text.toString();
+    }
+
+    /** That the simulation of an object with these many transactions and steps is a reset one. */
+    static void reset(String what, HolisticRta x, int transactions, int steps) {
+        due(what + ", now()", x.now(), 0);
+        for (int t = 0; t < transactions; t++) {
+            due(what + ", observedMax(" + t + ")", x.observedMax(t), HolisticRta.NONE);
+            due(what + ", completedCount(" + t + ")", x.completedCount(t), 0);
+            due(what + ", overrunCount(" + t + ")", x.overrunCount(t), 0);
+        }
+        for (int s = 0; s < steps; s++) {
+            due(what + ", stepObservedMax(" + s + ")", x.stepObservedMax(s), HolisticRta.NONE);
+            due(what + ", stepRemaining(" + s + ")", x.stepRemaining(s), 0);
+        }
+        for (int r : new int[] {0, 1, 2, 3, HolisticRta.BUS}) {
+            int last = x.runningOn(r);
+            due(what + ", runningOn(" + r + ") is NONE",
+                last == HolisticRta.NONE || last == HolisticRta.ERR_RESOURCE);
+        }
+    }
+
+    /**
+     * Two processors; transaction 0 is step 0 (processor 0), 1 (bus), 2 (processor 1), and
+     * transaction 1 is step 3 (processor 0), 4 (bus). Analysed, and stopped in the middle of a
+     * run: counts, maxima, remaining work, a frame and last runners are all there to be lost.
+     */
+    static HolisticRta busy() {
+        HolisticRta x = new HolisticRta(2, 16);
+        x.addTransaction(40, 40);
+        x.addTransaction(9, 9);
+        x.addStep(0, 0, 4, 10);
+        x.addStep(0, HolisticRta.BUS, 6, 20);
+        x.addStep(0, 1, 5, 10);
+        x.addStep(1, 0, 3, 30);
+        x.addStep(1, HolisticRta.BUS, 5, 10);
+        x.setArrivals(0, 3, 2);
+        x.setArrivals(1, 1, 0);
+        x.analyse();
+        x.run(140);
+        return x;
+    }
+}
