@@ -1,5 +1,8 @@
 /** Counts the answers that are not as due, and what the tests share to look at an object. */
 final class Check {
+    /** The time at which busy() stops. */
+    static final int BUSY_TIME = 143;
+
     private static int looked = 0;
     private static int wrong = 0;
 
@@ -112,7 +115,7 @@ final class Check {
         x.setArrivals(0, 3, 2);
         x.setArrivals(1, 1, 0);
         x.analyse();
-        x.run(140);
+        x.run(BUSY_TIME);
         return x;
     }
 }
