@@ -385,7 +385,6 @@ public final class HolisticRta {
         for (int x = 0; x < txCount; x++) {
             nextArrival[x] = offset[x];
             inFlight[x] = false;
-            arrivedAt[x] = 0;
             completed[x] = 0;
             overruns[x] = 0;
             txMax[x] = NONE;

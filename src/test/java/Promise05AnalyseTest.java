@@ -88,6 +88,10 @@ public final class Promise05AnalyseTest {
         three.addStep(2, BUS, 5, 10);
         // B: 9, 9 (its own, above 5), 5. W: 9; 9 + 2; 5 + 2 + 9.
         bounds("three frames", three, 1, 11, 20, 21);
+        HolisticRta turned = with(new int[][] {{50, 50}, {50, 50}});
+        turned.addStep(0, BUS, 9, 10);
+        turned.addStep(1, BUS, 2, 20);
+        bounds("the first step blocks", turned, 1, 20, 11);
         HolisticRta elsewhere = with(new int[][] {{50, 50}, {50, 50}});
         elsewhere.addStep(0, BUS, 2, 30);
         elsewhere.addStep(1, 0, 20, 10);
@@ -106,6 +110,12 @@ public final class Promise05AnalyseTest {
         y.addStep(0, 0, 3, 2);
         y.addStep(1, 0, 2, 1);
         bounds("jitter 6: (5 + 6)/10", y, 1, 6, 9, 8);
+        // The same with the ids turned round: the bound of step 0 waits for those of later steps.
+        HolisticRta turned = with(new int[][] {{30, 30}, {10, 10}});
+        turned.addStep(0, 0, 2, 1);
+        turned.addStep(1, 1, 6, 1);
+        turned.addStep(1, 0, 3, 2);
+        bounds("jitter 6 of a later step", turned, 1, 8, 6, 9);
         HolisticRta bus = with(new int[][] {{10, 10}, {30, 30}});
         bus.addStep(0, 1, 3, 1);
         bus.addStep(0, BUS, 2, 2);
@@ -265,5 +275,13 @@ public final class Promise05AnalyseTest {
         // 20 + 7 * 20 + 20 = 180 for the last head; every second frame comes too late.
         Check.due("the last head", x.stepBound(7), 180);
         Check.due("the last frame", x.stepBound(15), -1);
+        HolisticRta light = new HolisticRta(4, 16);
+        light.addTransaction(200, 200);
+        for (int s = 0; s < 16; s++) {
+            light.addStep(0, s % 4, 1, 100 - s);
+        }
+        Check.due("16 light steps", light.analyse(), 1);
+        // One tick for each, and one more for every more urgent step on its processor: 4 * (1 + 2 + 3 + 4).
+        Check.due("the end of their chain", light.transactionBound(0), 40);
     }
 }

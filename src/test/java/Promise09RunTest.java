@@ -15,6 +15,7 @@ public final class Promise09RunTest {
         nextFrameIsTheMostUrgent();
         busGoesAfterTheProcessors();
         overrunsAndArrivals();
+        fullConfiguration();
         Check.end("Promise09RunTest");
     }
 
@@ -198,5 +199,22 @@ public final class Promise09RunTest {
         full.run(1000);
         Check.due("back to back, completed", full.completedCount(0), 200);
         Check.due("back to back, overruns", full.overrunCount(0), 0);
+    }
+
+    private static void fullConfiguration() {
+        HolisticRta x = new HolisticRta(4, 16);
+        for (int tx = 0; tx < 8; tx++) {
+            x.addTransaction(100, 100);
+        }
+        for (int s = 0; s < 16; s++) {
+            x.addStep(s % 8, s < 8 ? s % 4 : BUS, 2, s + 1);
+        }
+        Check.due("run(1000)", x.run(1000), 1000);
+        for (int tx = 0; tx < 8; tx++) {
+            Check.due("completedCount(" + tx + ")", x.completedCount(tx), 10);
+        }
+        // Heads 4 to 7 end at 2, heads 0 to 3 at 4; the frames go from step 15 down to step 8.
+        Check.due("the first frame", x.observedMax(7), 4);
+        Check.due("the last frame", x.observedMax(0), 18);
     }
 }
