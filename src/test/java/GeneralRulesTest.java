@@ -120,14 +120,12 @@ public final class GeneralRulesTest {
         for (Situation where : Situation.ALL) {
             List<String> refused = refusedCalls.get(where);
             Check.due(where.name + ", there are refused calls", refused.size() > 500);
-            for (int way = 0; way < 2; way++) {
-                Rta x = new Real(where.make());
+            where.unchangedBy(refused.size() + " refused calls", x -> {
                 for (String call : refused) {
                     int got = x.call(call);
                     Check.due(where.name + ", " + call + " answers an ERR_ constant", got <= -10 && got >= -16);
                 }
-                where.sameFuture(refused.size() + " refused calls", x, way);
-            }
+            });
         }
     }
 
@@ -143,16 +141,12 @@ public final class GeneralRulesTest {
     private static void gettersChangeNothing() {
         Check.says("Getters change nothing.");
         for (Situation where : Situation.ALL) {
-            for (int way = 0; way < 2; way++) {
-                Rta x = new Real(where.make());
-                String before = Check.view(x);
+            where.unchangedBy("the getters", x -> {
                 for (String call : allGetters()) {
                     int answer = x.call(call);
                     Check.due(where.name + ", " + call + " again", x.call(call), answer);
                 }
-                Check.same(where.name + ", after the getters", Check.view(x), before);
-                where.sameFuture("the getters", x, way);
-            }
+            });
         }
     }
 

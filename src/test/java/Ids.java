@@ -57,15 +57,13 @@ final class Ids {
     static void changesNothing(String getter) {
         Check.says("The call changes nothing.");
         for (Situation where : Situation.ALL) {
-            for (int way = 0; way < 2; way++) {
-                Rta x = new Real(where.make());
+            where.unchangedBy(getter, x -> {
                 for (int id : Values.ALL) {
                     String call = getter + "(" + id + ")";
                     int answer = x.call(call);
                     Check.due(where.name + ", " + call + " again", x.call(call), answer);
                 }
-                where.sameFuture(getter, x, way);
-            }
+            });
         }
     }
 }

@@ -141,7 +141,7 @@ public final class Promise02AddTransactionTest {
 
     private static void refusedByFullChangesNothing() {
         Check.says("A refused call changes nothing at all (ERR_FULL)");
-        for (Situation where : new Situation[] {Situation.TRANSACTIONS_FULL, Situation.ALL_FULL}) {
+        for (Situation where : new Situation[] {Situation.TRANSACTIONS_FULL, Situation.ALL_FULL, Situation.CALM_FULL}) {
             where.unchangedBy(-10, "addTransaction(100, 100)");
             where.unchangedBy(-10, "addTransaction(0, 0)");
             where.unchangedBy(-10, "addTransaction(1, 1)", "addTransaction(200, 200)");
@@ -258,7 +258,7 @@ public final class Promise02AddTransactionTest {
         Check.reset("refused, under way", x, 3, 5);
         HolisticRta y = Situation.AT_THE_HORIZON.make();
         y.addTransaction(20, 20);
-        Check.reset("at the horizon", y, 3, 2);
+        Check.reset("at the horizon", y, 4, 4);
         HolisticRta z = Situation.STEPS_FULL.make();
         z.addTransaction(20, 20);
         Check.reset("no room for a step", z, 3, 4);

@@ -198,12 +198,13 @@ public final class Promise03AddStepTest {
         Situation.ADMITTED.unchangedBy(-15, "addStep(0, 0, 1, 30)", "addStep(1, 0, 1, 10)", "addStep(1, 8, 2, 20)");
         Situation.REFUSED.unchangedBy(-15, "addStep(0, 0, 1, 30)");
         Situation.NOT_ANALYSED.unchangedBy(-15, "addStep(0, 1, 1, 10)");
+        Situation.OVERLOADED.unchangedBy(-15, "addStep(0, 8, 1, 90)", "addStep(2, 1, 1, 5)", "addStep(1, 0, 1, 50)");
         Situation.AT_THE_HORIZON.unchangedBy(-15, "addStep(0, 8, 1, 9)");
     }
 
     private static void refusedByFullChangesNothing() {
         Check.says("A refused call changes nothing at all. (ERR_FULL)");
-        for (Situation where : new Situation[] {Situation.STEPS_FULL, Situation.ALL_FULL}) {
+        for (Situation where : new Situation[] {Situation.STEPS_FULL, Situation.ALL_FULL, Situation.CALM_FULL}) {
             where.unchangedBy(-10, "addStep(0, 0, 1, 99)");
             where.unchangedBy(-10, "addStep(1, 8, 20, 100)", "addStep(1, 9, 0, 0)");
             where.unchangedBy(-11, "addStep(8, 0, 1, 99)", "addStep(-1, 0, 1, 99)");
@@ -354,7 +355,7 @@ public final class Promise03AddStepTest {
         Check.reset("refused, under way", x, 2, 6);
         HolisticRta y = Situation.AT_THE_HORIZON.make();
         y.addStep(0, 0, 1, 1);
-        Check.reset("at the horizon", y, 2, 3);
+        Check.reset("at the horizon", y, 3, 5);
         HolisticRta z = Situation.TRANSACTIONS_FULL.make();
         z.addStep(7, 2, 1, 100);
         Check.reset("no room for a transaction", z, 8, 9);

@@ -258,7 +258,7 @@ public final class Promise04SetArrivalsTest {
         }
         HolisticRta late = Situation.AT_THE_HORIZON.make();
         late.setArrivals(0, 0, 0);
-        Check.reset("at the horizon", late, 2, 2);
+        Check.reset("at the horizon", late, 3, 4);
         Check.due("it runs again", late.run(1000), 1000);
     }
 

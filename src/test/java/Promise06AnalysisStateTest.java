@@ -39,7 +39,8 @@ public final class Promise06AnalysisStateTest {
 
     private static void afterEveryConfigurationChange() {
         Check.says("NOT_ANALYSED .. after every configuration change");
-        for (Situation where : new Situation[] {Situation.ADMITTED, Situation.REFUSED, Situation.AT_THE_HORIZON}) {
+        for (Situation where : new Situation[] {Situation.ADMITTED, Situation.REFUSED, Situation.AT_THE_HORIZON,
+            Situation.CALM_AT_THE_HORIZON}) {
             HolisticRta x = where.make();
             for (int i = 0; i < 4; i++) {
                 Check.due(where.name + ", analysed", x.analysisState() > 0);

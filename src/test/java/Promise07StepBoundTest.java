@@ -11,7 +11,7 @@ public final class Promise07StepBoundTest {
         finiteLiesWithinTheDeadline();
         admittedMeansFinite();
         keptUntilTheConfigurationChanges();
-        changesNothing();
+        Ids.changesNothing("stepBound");
         Check.end("Promise07StepBoundTest");
     }
 
@@ -135,19 +135,6 @@ public final class Promise07StepBoundTest {
         for (String call : new String[] {"run(50)", "setArrivals(0, 9, 9)", "addStep(0, 0, 0, 0)", "addTransaction(0, 0)"}) {
             new Real(x).call(call);
             Check.same("after " + call, Check.analysisView(x), analysis);
-        }
-    }
-
-    private static void changesNothing() {
-        Check.says("The call changes nothing.");
-        for (Situation where : Situation.ALL) {
-            for (int way = 0; way < 2; way++) {
-                Rta x = new Real(where.make());
-                for (int id : Values.ALL) {
-                    Check.due(where.name + ", stepBound(" + id + ") twice", x.stepBound(id), x.stepBound(id));
-                }
-                where.sameFuture("stepBound", x, way);
-            }
         }
     }
 }

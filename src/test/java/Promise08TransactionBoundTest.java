@@ -11,7 +11,7 @@ public final class Promise08TransactionBoundTest {
         boundOfTheTail();
         tailMovesWithTheChain();
         unbounded();
-        changesNothing();
+        Ids.changesNothing("transactionBound");
         Check.end("Promise08TransactionBoundTest");
     }
 
@@ -134,18 +134,5 @@ public final class Promise08TransactionBoundTest {
         y.addStep(0, 1, 1, 1);
         y.analyse();
         Check.due("its head is not bounded", y.transactionBound(0), HolisticRta.UNBOUNDED);
-    }
-
-    private static void changesNothing() {
-        Check.says("The call changes nothing.");
-        for (Situation where : Situation.ALL) {
-            for (int way = 0; way < 2; way++) {
-                Rta x = new Real(where.make());
-                for (int id : Values.ALL) {
-                    Check.due(where.name + ", transactionBound(" + id + ") twice", x.transactionBound(id), x.transactionBound(id));
-                }
-                where.sameFuture("transactionBound", x, way);
-            }
-        }
     }
 }

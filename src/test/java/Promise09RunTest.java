@@ -4,8 +4,9 @@ public final class Promise09RunTest {
     private static final int MIN = Values.MIN;
     private static final int MAX = Values.MAX;
     private static final Situation[] COMPLETE = {
-        Situation.NOT_ANALYSED, Situation.ADMITTED, Situation.REFUSED, Situation.STEPS_FULL, Situation.TRANSACTIONS_FULL,
-        Situation.ALL_FULL, Situation.AT_THE_HORIZON,
+        Situation.NOT_ANALYSED, Situation.ADMITTED, Situation.REFUSED, Situation.OVERLOADED, Situation.STEPS_FULL,
+        Situation.TRANSACTIONS_FULL, Situation.ALL_FULL, Situation.CALM_FULL, Situation.AT_THE_HORIZON,
+        Situation.CALM_AT_THE_HORIZON,
     };
 
     public static void main(String[] args) {
@@ -212,17 +213,19 @@ public final class Promise09RunTest {
         for (int ticks : Values.ALL) {
             Check.due("run(" + ticks + ")", x.run(ticks), 0);
         }
-        Situation.AT_THE_HORIZON.unchangedBy(0, "run(1)");
-        Situation.AT_THE_HORIZON.unchangedBy(0, "run(1000)", "run(" + MAX + ")", "run(0)", "run(-1)", "run(" + MIN + ")");
+        for (Situation where : new Situation[] {Situation.AT_THE_HORIZON, Situation.CALM_AT_THE_HORIZON}) {
+            where.unchangedBy(0, "run(1)");
+            where.unchangedBy(0, "run(1000)", "run(" + MAX + ")", "run(0)", "run(-1)", "run(" + MIN + ")");
+        }
     }
 
     private static void incompleteIsExaminedBeforeTheHorizon() {
         Check.says("If the configuration is not COMPLETE, it answers ERR_INCOMPLETE (also after the horizon was met)");
         HolisticRta x = Situation.AT_THE_HORIZON.make();
-        x.addTransaction(50, 50);
+        int id = x.addTransaction(50, 50);
         Check.due("run(1)", x.run(1), -16);
         Check.due("now()", x.now(), 0);
-        x.addStep(2, 0, 1, 1);
+        x.addStep(id, 0, 1, 1);
         Check.due("run(1) when complete", x.run(1), 1);
         Check.due("now() then", x.now(), 1);
     }

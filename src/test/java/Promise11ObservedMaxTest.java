@@ -9,6 +9,7 @@ public final class Promise11ObservedMaxTest {
         tailsAlone();
         fromTheArrivalOfTheInstance();
         leastAndGreatest();
+        lateInstances();
         sinceTheLastReset();
         keptWhileNothingCompletes();
         Ids.changesNothing("observedMax");
@@ -99,30 +100,27 @@ public final class Promise11ObservedMaxTest {
         HolisticRta least = one(1, 1);
         least.run(1000);
         Check.due("one tick", least.observedMax(0), 1);
-        // Transaction 0 takes 200 ticks of every 201, and transaction 2 most of what is left; so the five
-        // steps of 20 ticks of transaction 1 end tens of thousands of ticks after their arrival.
-        HolisticRta x = new HolisticRta(1, 16);
-        Model m = new Model(1, 16);
-        for (Rta each : new Rta[] {new Real(x), m}) {
-            each.addTransaction(1, 1);
-            each.addTransaction(200, 200);
-            for (int s = 0; s < 10; s++) {
-                each.addStep(0, 0, 20, 91 + s);
-            }
-            for (int s = 0; s < 5; s++) {
-                each.addStep(1, 0, 20, 1 + s);
-            }
-            each.addTransaction(200, 200);
-            each.addStep(2, 0, 1, 50);
-            each.setArrivals(0, 0, 200);
-            each.setArrivals(2, 0, 100);
-            for (int i = 0; i < 100; i++) {
-                each.run(1000);
-            }
+        HolisticRta x = Situation.STARVED.make();
+        Check.due("200 ticks of 201", x.observedMax(0), 200);
+        Check.due("one that gets 80 ticks in all that time", x.observedMax(1), 82209);
+        Check.due("one that waits for those 200", x.observedMax(2), 201);
+    }
+
+    private static void lateInstances() {
+        Check.says("c - A(tx) (of instances that arrive late in the run)");
+        HolisticRta x = one(20, 7);
+        x.setArrivals(0, 5, 0);
+        for (int i = 1; i <= 100; i++) {
+            x.run(1000);
+            Check.due("at " + x.now(), x.observedMax(0), 7);
         }
-        Check.due("the model sees a long one", m.observedMax(1) > 32768);
-        Check.due("a long one", x.observedMax(1), m.observedMax(1));
-        Check.due("its overruns", x.overrunCount(1), m.overrunCount(1));
+        // Nothing is seen before 200, and then one instance in 400 ticks.
+        HolisticRta y = one(200, 20);
+        y.setArrivals(0, 200, 200);
+        for (int i = 1; i <= 100; i++) {
+            y.run(1000);
+            Check.due("a wide pattern, at " + y.now(), y.observedMax(0), 20);
+        }
     }
 
     private static void sinceTheLastReset() {

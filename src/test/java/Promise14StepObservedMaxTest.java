@@ -9,6 +9,8 @@ public final class Promise14StepObservedMaxTest {
         arrivalOfTheSameInstance();
         greatestNotTheLatest();
         everyStepByItself();
+        leastAndGreatest();
+        lateInstances();
         sinceTheLastReset();
         Ids.changesNothing("stepObservedMax");
         Check.end("Promise14StepObservedMaxTest");
@@ -106,6 +108,37 @@ public final class Promise14StepObservedMaxTest {
                 due += k + 1;
             }
             Check.due("stepObservedMax(" + s + ")", x.stepObservedMax(s), due);
+        }
+    }
+
+    private static void leastAndGreatest() {
+        Check.says("the greatest value of c - A(tx(step)) (from 1 to far above every period)");
+        HolisticRta least = new HolisticRta(1, 8);
+        least.addTransaction(1, 1);
+        least.addStep(0, 0, 1, 1);
+        least.run(1000);
+        Check.due("one tick", least.stepObservedMax(0), 1);
+        HolisticRta x = Situation.STARVED.make();
+        for (int s = 0; s < 10; s++) {
+            Check.due("200 ticks of 201, stepObservedMax(" + s + ")", x.stepObservedMax(s), 20 * (s + 1));
+        }
+        Check.due("one that waits for those 200", x.stepObservedMax(10), 201);
+        // 20 ticks of work for each, of which 102 rounds of 201 ticks leave so many.
+        for (int s = 0; s < 4; s++) {
+            Check.due("the starved, stepObservedMax(" + (11 + s) + ")", x.stepObservedMax(11 + s), 20703 + s * 102 * 201);
+        }
+    }
+
+    private static void lateInstances() {
+        Check.says("completion time minus the arrival time of that same instance (late in the run)");
+        HolisticRta x = new HolisticRta(1, 8);
+        x.addTransaction(20, 20);
+        x.addStep(0, 0, 7, 1);
+        x.addStep(0, BUS, 5, 1);
+        for (int i = 1; i <= 100; i++) {
+            x.run(1000);
+            Check.due("at " + x.now() + ", the head", x.stepObservedMax(0), 7);
+            Check.due("at " + x.now() + ", the tail", x.stepObservedMax(1), 12);
         }
     }
 

@@ -91,7 +91,11 @@ public final class Promise15StepRemainingTest {
         for (String how : new String[] {"setArrivals(1, 4, 0)", "addStep(1, 1, 1, 1)", "addTransaction(9, 9)"}) {
             for (Situation where : new Situation[] {Situation.NOT_ANALYSED, Situation.ADMITTED, Situation.REFUSED}) {
                 HolisticRta x = where.make();
-                Check.due(where.name + ", there is work", x.stepRemaining(1) + x.stepRemaining(2) + x.stepRemaining(4) > 0);
+                int work = 0;
+                for (int s = 0; s < 5; s++) {
+                    work += x.stepRemaining(s);
+                }
+                Check.due(where.name + ", there is work", work > 0);
                 new Real(x).call(how);
                 for (int s = 0; s < 5; s++) {
                     Check.due(where.name + ", after " + how + ", stepRemaining(" + s + ")", x.stepRemaining(s), 0);

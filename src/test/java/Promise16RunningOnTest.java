@@ -157,6 +157,7 @@ public final class Promise16RunningOnTest {
         Check.due("the frame", x.runningOn(BUS), 0);
         x.run(1000);
         Check.due("the frame, after a run that does nothing", x.runningOn(BUS), 0);
-        Check.due("the processor", x.runningOn(0), -1);
+        // Step 2 works in five ticks of six, and 99999 is the fourth of its six.
+        Check.due("the processor", x.runningOn(0), 2);
     }
 }

@@ -25,6 +25,7 @@ public final class TermsAnalysisTest {
         deadlineOfItsOwnTransaction();
         leastVector();
         leastVectorWhateverTheIds();
+        leastVectorAfterManyRounds();
         oneInfiniteBoundRefuses();
         boundOfTheTail();
         Check.end("TermsAnalysisTest");
@@ -482,6 +483,32 @@ public final class TermsAnalysisTest {
         z.addStep(3, 2, 5, 2);
         // 3: 7 + 14 is above 20: 2 + 2 * 5 = 12. 1: 2 + 4, 6 + 12 is not. 0: 8 + 3, 11 + 6 is not.
         Bounds.due("a longer jitter", z, 1, 11, 6, 9, 12, 16, 14, 19);
+    }
+
+    /** Two systems in which the bounds push each other up more than ten times; the model has reckoned them. */
+    private static void leastVectorAfterManyRounds() {
+        Check.says("The ANALYSED BOUNDS are the LEAST vector R with F(R) = R. (reached after many rounds)");
+        HolisticRta x = Bounds.with(tx(152, 152), tx(188, 142), tx(122, 122));
+        int[][] steps = {
+            {0, 0, 13, 35}, {1, 0, 2, 28}, {2, 1, 2, 31}, {0, 0, 4, 48}, {0, 1, 6, 20}, {2, 1, 17, 50}, {0, 1, 8, 14},
+            {0, 1, 4, 83}, {0, 2, 16, 24}, {1, 1, 17, 15}, {2, 3, 1, 97}, {2, 1, 2, 45}, {2, 1, 3, 78}, {1, 0, 1, 47},
+        };
+        for (int[] s : steps) {
+            x.addStep(s[0], s[1], s[2], s[3]);
+        }
+        Bounds.due("all finite", x, 1, 18, 20, 35, 22, 63, 66, 131, 135, 151, 80, 67, 100, 107, 85);
+        HolisticRta y = Bounds.with(tx(66, 66), tx(92, 92), tx(54, 54), tx(26, 14));
+        int[][] more = {
+            {0, 0, 1, 64}, {1, 2, 1, 26}, {2, 0, 2, 19}, {3, 1, 1, 58}, {0, 2, 1, 37}, {0, 1, 2, 86}, {1, BUS, 3, 38},
+            {1, 2, 10, 84}, {0, 2, 2, 69}, {1, 1, 4, 55}, {2, 0, 17, 70}, {0, BUS, 8, 82}, {1, 2, 2, 27}, {0, 2, 5, 2},
+            {1, 2, 1, 93}, {3, 0, 4, 59},
+        };
+        int[] none = new int[more.length];
+        for (int i = 0; i < more.length; i++) {
+            y.addStep(more[i][0], more[i][1], more[i][2], more[i][3]);
+            none[i] = HolisticRta.UNBOUNDED;
+        }
+        Bounds.due("none is finite in the end", y, 2, none);
     }
 
     private static void oneInfiniteBoundRefuses() {

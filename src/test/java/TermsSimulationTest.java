@@ -271,13 +271,13 @@ public final class TermsSimulationTest {
 
     private static void resetAtTheHorizon() {
         Check.says("SIMULATION RESET sets: .. (at the horizon)");
-        for (String how : new String[] {"setArrivals(1, 18, 0)", "addTransaction(200, 200)", "addStep(0, 0, 1, 77)"}) {
+        for (String how : new String[] {"setArrivals(1, 18, 0)", "addTransaction(200, 200)", "addStep(1, 0, 1, 77)"}) {
             HolisticRta x = Situation.AT_THE_HORIZON.make();
             Check.due("run(1) at the horizon", x.run(1), 0);
             new Real(x).call(how);
-            Check.reset(how, x, how.startsWith("addT") ? 3 : 2, how.startsWith("addS") ? 3 : 2);
+            Check.reset(how, x, how.startsWith("addT") ? 4 : 3, how.startsWith("addS") ? 5 : 4);
             if (how.startsWith("addT")) {
-                x.addStep(2, 0, 1, 77);
+                x.addStep(3, 0, 1, 77);
             }
             Check.due(how + ", run(17)", x.run(17), 17);
             Check.due(how + ", the first arrival is at 16", x.runningOn(BUS), 0);
