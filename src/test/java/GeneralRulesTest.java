@@ -14,6 +14,7 @@ public final class GeneralRulesTest {
     private static final Map<Situation, List<String>> refusedCalls = new HashMap<>();
 
     public static void main(String[] args) {
+        situationsAreWhatTheyAreCalled();
         anyArguments();
         anyFourArguments();
         refusedCallsChangeNothing();
@@ -21,6 +22,40 @@ public final class GeneralRulesTest {
         gettersChangeNothing();
         objectsAreApart();
         Check.end("GeneralRulesTest");
+    }
+
+    /** The tests lean on these: a situation that has lost what it is for would let faults pass. */
+    private static void situationsAreWhatTheyAreCalled() {
+        for (Situation where : new Situation[] {Situation.FRESH, Situation.EMPTY, Situation.INCOMPLETE}) {
+            Check.due(where.name + ", analyse()", where.make().analyse(), -16);
+        }
+        Check.due("not analysed", Situation.NOT_ANALYSED.make().analysisState(), 0);
+        for (Situation where : new Situation[] {Situation.ADMITTED, Situation.CALM_FULL, Situation.CALM_AT_THE_HORIZON}) {
+            Check.due(where.name + ", analysisState()", where.make().analysisState(), 1);
+        }
+        for (Situation where : new Situation[] {Situation.REFUSED, Situation.OVERLOADED, Situation.STEPS_FULL,
+            Situation.TRANSACTIONS_FULL, Situation.ALL_FULL, Situation.AT_THE_HORIZON}) {
+            HolisticRta x = where.make();
+            Check.due(where.name + ", analysisState()", x.analysisState(), 2);
+            int overruns = 0;
+            for (int tx = 0; tx < 8; tx++) {
+                overruns += Math.max(0, x.overrunCount(tx));
+            }
+            Check.due(where.name + ", there are overruns", overruns > 0);
+        }
+        for (Situation where : new Situation[] {Situation.TRANSACTIONS_FULL, Situation.ALL_FULL, Situation.CALM_FULL}) {
+            Check.due(where.name + ", addTransaction(9, 9)", where.make().addTransaction(9, 9), -10);
+        }
+        for (Situation where : new Situation[] {Situation.STEPS_FULL, Situation.ALL_FULL, Situation.CALM_FULL}) {
+            Check.due(where.name + ", addStep(0, 0, 1, 99)", where.make().addStep(0, 0, 1, 99), -10);
+        }
+        for (Situation where : new Situation[] {Situation.ADMITTED, Situation.REFUSED, Situation.OVERLOADED,
+            Situation.STEPS_FULL, Situation.ALL_FULL}) {
+            Check.due(where.name + ", an urgent frame waits for a less urgent one", where.model().urgentFrameWaits());
+        }
+        for (Situation where : new Situation[] {Situation.AT_THE_HORIZON, Situation.CALM_AT_THE_HORIZON, Situation.STARVED}) {
+            Check.due(where.name + ", now()", where.make().now(), HolisticRta.HORIZON);
+        }
     }
 
     /** Every call that is no getter: a strange value in each place, and some in two places at once. */
@@ -100,8 +135,9 @@ public final class GeneralRulesTest {
                     for (int cost : Values.FEW) {
                         for (int priority : Values.FEW) {
                             int due = m.addStep(tx, resource, cost, priority);
-                            String what = where.name + ", addStep(" + tx + ", " + resource + ", " + cost + ", " + priority + ")";
-                            Check.due(what, x.addStep(tx, resource, cost, priority), due);
+                            String what = tx + ", " + resource + ", " + cost + ", " + priority;
+                            int got = x.addStep(tx, resource, cost, priority);
+                            Check.due(where.name + ", addStep(" + what + ")", got, due);
                             if (due >= 0) {
                                 x = new Real(where.make());
                                 m = where.model();

@@ -236,6 +236,10 @@ final class Model implements Rta {
         return best;
     }
 
+    boolean urgentFrameWaits() {
+        return frame != null && top(8) != frame;
+    }
+
     private void reset() {
         now = 0;
         frame = null;

@@ -149,7 +149,8 @@ public final class Promise02AddTransactionTest {
     }
 
     private static void newIdIsTheNumberBefore() {
-        Check.says("Otherwise the call answers the new id, which equals the number of transactions that existed before the call.");
+        Check.says("Otherwise the call answers the new id, which equals the number of transactions that existed before "
+            + "the call.");
         HolisticRta x = new HolisticRta(1, 16);
         int steps = 0;
         for (int id = 0; id < 8; id++) {

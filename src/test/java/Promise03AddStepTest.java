@@ -225,7 +225,8 @@ public final class Promise03AddStepTest {
     }
 
     private static void newIdIsTheNumberBefore() {
-        Check.says("Otherwise the call answers the new step id, which equals the number of steps that existed before the call.");
+        Check.says("Otherwise the call answers the new step id, which equals the number of steps that existed before "
+            + "the call.");
         HolisticRta x = with(4, 8);
         int[] order = {7, 0, 3, 3, 1, 6, 0, 2, 5, 4, 7, 7, 1, 2, 3, 0};
         for (int s = 0; s < 16; s++) {

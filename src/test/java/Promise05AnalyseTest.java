@@ -140,7 +140,8 @@ public final class Promise05AnalyseTest {
     private static void simulationIsUntouched() {
         Check.says("The simulation is untouched: now, counts, maxima, rem, frame and last runners all stay as they were.");
         for (Situation where : new Situation[] {Situation.NOT_ANALYSED, Situation.ADMITTED, Situation.REFUSED,
-            Situation.OVERLOADED, Situation.STEPS_FULL, Situation.TRANSACTIONS_FULL, Situation.ALL_FULL, Situation.CALM_FULL, Situation.AT_THE_HORIZON}) {
+            Situation.OVERLOADED, Situation.STEPS_FULL, Situation.TRANSACTIONS_FULL, Situation.ALL_FULL,
+            Situation.CALM_FULL, Situation.AT_THE_HORIZON}) {
             HolisticRta x = where.make();
             String before = Check.simulationView(x);
             Check.due(where.name + ", analyse()", x.analyse() > 0);
@@ -157,7 +158,8 @@ public final class Promise05AnalyseTest {
     private static void configurationIsUnchanged() {
         Check.says("The configuration is unchanged.");
         for (Situation where : new Situation[] {Situation.ADMITTED, Situation.REFUSED, Situation.OVERLOADED,
-            Situation.STEPS_FULL, Situation.TRANSACTIONS_FULL, Situation.ALL_FULL, Situation.CALM_FULL, Situation.AT_THE_HORIZON}) {
+            Situation.STEPS_FULL, Situation.TRANSACTIONS_FULL, Situation.ALL_FULL, Situation.CALM_FULL,
+            Situation.AT_THE_HORIZON}) {
             where.unchangedBy(where.make().analysisState(), "analyse()");
         }
     }

@@ -318,7 +318,8 @@ public final class TermsSimulationTest {
     private static void refusedOnesAreNoChange() {
         Check.says("A CONFIGURATION CHANGE is a successful addTransaction or addStep. (a refused one is none)");
         for (Situation where : Situation.ROOMY) {
-            where.unchangedBy(-14, "addTransaction(0, 1)", "addTransaction(1, 2)", "addStep(0, 0, 0, 1)", "addStep(0, 0, 1, 0)");
+            where.unchangedBy(-14, "addTransaction(0, 1)", "addTransaction(1, 2)");
+            where.unchangedBy(-14, "addStep(0, 0, 0, 1)", "addStep(0, 0, 1, 0)");
         }
         for (Situation where : new Situation[] {Situation.TRANSACTIONS_FULL, Situation.ALL_FULL}) {
             where.unchangedBy(-10, "addTransaction(1, 1)", "addTransaction(200, 200)");
@@ -330,8 +331,8 @@ public final class TermsSimulationTest {
         for (Situation where : new Situation[] {Situation.ADMITTED, Situation.REFUSED}) {
             HolisticRta x = where.make();
             int state = x.analysisState();
-            for (String call : new String[] {"run(1)", "run(0)", "run(1000)", "setArrivals(0, 0, 0)", "setArrivals(1, 200, 200)",
-                "analyse()", "analysisState()", "now()", "runningOn(8)", "stepBound(0)"}) {
+            for (String call : new String[] {"run(1)", "run(0)", "run(1000)", "setArrivals(0, 0, 0)",
+                "setArrivals(1, 200, 200)", "analyse()", "analysisState()", "now()", "runningOn(8)", "stepBound(0)"}) {
                 new Real(x).call(call);
                 Check.due(where.name + ", " + call, x.analysisState(), state);
             }
