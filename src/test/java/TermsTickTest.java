@@ -22,6 +22,7 @@ public final class TermsTickTest {
         greaterMaximumIsKept();
         doneFrameFreesTheBus();
         frameOfOneTick();
+        otherCompletionsLeaveTheFrame();
         nextStepStartsInTheNextTick();
         nextStepGetsItsWholeCost();
         tailEndsTheFlight();
@@ -355,6 +356,25 @@ public final class TermsTickTest {
         x.addStep(1, BUS, 1, 3);
         x.addStep(2, BUS, 1, 2);
         ticks("frames of one tick", x, BUS, 1, 2, 1, 0, 1, -1, 1, -1);
+    }
+
+    /** Transaction 0 is a long frame; the head of transaction 1, on the processor, ends while it is under way. */
+    private static void otherCompletionsLeaveTheFrame() {
+        Check.says("if s is the frame (the completion of another step leaves the frame as it is)");
+        HolisticRta x = new HolisticRta(1, 8);
+        x.addTransaction(50, 50);
+        x.addTransaction(50, 50);
+        x.addStep(0, BUS, 8, 1);
+        x.addStep(1, 0, 2, 1);
+        x.addStep(1, BUS, 1, 9);
+        ticks("the frame has the lower id", x, BUS, 0, 0, 0, 0, 0, 0, 0, 0, 2, -1);
+        HolisticRta y = new HolisticRta(1, 8);
+        y.addTransaction(50, 50);
+        y.addTransaction(50, 50);
+        y.addStep(1, 0, 2, 1);
+        y.addStep(0, BUS, 8, 1);
+        y.addStep(1, BUS, 1, 9);
+        ticks("the frame has the greater id", y, BUS, 1, 1, 1, 1, 1, 1, 1, 1, 2, -1);
     }
 
     private static void nextStepStartsInTheNextTick() {
