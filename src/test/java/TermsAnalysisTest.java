@@ -16,9 +16,12 @@ public final class TermsAnalysisTest {
         leastWindow();
         noWindow();
         sumOverAllMoreUrgent();
+        processorWindow();
+        processorBound();
         blocking();
         busWindow();
         ownFrameComesOnTop();
+        ownJitterIsOutsideTheWindow();
         deadlineIsTheLastFiniteBound();
         greatestBound();
         leastFiniteBound();
@@ -299,6 +302,31 @@ public final class TermsAnalysisTest {
         Bounds.due("eight steps, the last the most urgent", y, 1, 36, 35, 33, 30, 26, 21, 15, 8);
     }
 
+    private static void processorWindow() {
+        Check.says("Processor step: let f(w) = C(s) + the sum over j in hp(s) of ceil((w + J(j)) / T(j)) * C(j).");
+        for (int cost : new int[] {1, 5, 20}) {
+            HolisticRta x = Bounds.with(tx(50, 50), tx(50, 50));
+            x.addStep(0, 3, cost, 2);
+            x.addStep(1, 3, 9, 1);
+            Bounds.due("a less urgent step does not block cost " + cost, x, 1, cost, cost + 9);
+        }
+        // Step 1: f(w) = 4 + ceil(w/T) * 3, which at 7 is 7 down to T = 7, and 10 for T = 6.
+        Bounds.due("period 8", pair(0, 8), 1, 3, 7);
+        Bounds.due("period 7: 7/7", pair(0, 7), 1, 3, 7);
+        Bounds.due("period 6: 7/6", pair(0, 6), 1, 3, 10);
+    }
+
+    private static void processorBound() {
+        Check.says("Then raw(s) = J(s) + W. (processor)");
+        for (int cost : new int[] {1, 2, 19, 20}) {
+            HolisticRta x = Bounds.with(tx(200, 200), tx(200, 200));
+            x.addStep(0, 0, 7, 1);
+            x.addStep(0, 1, cost, 1);
+            x.addStep(1, 1, 3, 2);
+            Bounds.due("cost " + cost, x, 1, 7, 7 + cost + 3, 3);
+        }
+    }
+
     private static void blocking() {
         Check.says("let B be the greatest of C(s) and of C(k) for every k in lp(s)");
         HolisticRta alone = Bounds.with(tx(50, 50));
@@ -345,6 +373,21 @@ public final class TermsAnalysisTest {
             x.addStep(0, BUS, cost, 1);
             Bounds.due("cost " + cost, x, 1, 7, 7 + 2 * cost);
         }
+    }
+
+    private static void ownJitterIsOutsideTheWindow() {
+        Check.says("raw(s) = J(s) + W (f knows J of the more urgent steps alone)");
+        // f(5) = 2 + 1 * 3 on either resource; with its own jitter of 9 the step would meet two of them.
+        HolisticRta task = Bounds.with(tx(10, 10), tx(50, 50));
+        task.addStep(0, 1, 3, 9);
+        task.addStep(1, 0, 9, 1);
+        task.addStep(1, 1, 2, 1);
+        Bounds.due("a task", task, 1, 3, 9, 9 + 5);
+        HolisticRta message = Bounds.with(tx(10, 10), tx(50, 50));
+        message.addStep(0, BUS, 3, 9);
+        message.addStep(1, 0, 9, 1);
+        message.addStep(1, BUS, 2, 1);
+        Bounds.due("a message", message, 1, 3 + 3, 9, 9 + 5 + 2);
     }
 
     private static void deadlineIsTheLastFiniteBound() {
