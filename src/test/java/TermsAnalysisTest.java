@@ -1,4 +1,4 @@
-/** 'Terms used below', Analysis: every bound is reckoned by hand from the document's formulas. */
+/** 'Terms used below', Analysis: bounds reckoned by hand from the document's formulas, but for those after many rounds. */
 public final class TermsAnalysisTest {
     private static final int BUS = HolisticRta.BUS;
 
